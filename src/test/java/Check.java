@@ -1,0 +1,87 @@
+import java.nio.charset.StandardCharsets;
+import java.util.Arrays;
+
+/** Counts answers that are not the ones that are due, and feeds texts to a CableDrawer. */
+final class Check {
+    private static int wrong = 0;
+    private static int asked = 0;
+
+    private Check() {
+    }
+
+    static void due(String call, long got, long want) {
+        asked++;
+        if (got != want) {
+            wrong++;
+            System.out.println(call + " answered " + got + ", due is " + want);
+        }
+    }
+
+    static void due(String call, boolean got, boolean want) {
+        due(call, got ? 1 : 0, want ? 1 : 0);
+    }
+
+    /** A call that is refused: NONE, and the STATUS that is due. */
+    static void refused(String call, CableDrawer x, long got, int status) {
+        due(call, got, CableDrawer.NONE);
+        due(call + ": status", x.status(), status);
+    }
+
+    static void refused(String call, CableDrawer x, boolean got, int status) {
+        due(call, got, false);
+        due(call + ": status", x.status(), status);
+    }
+
+    static void fraction(String call, CableDrawer x, boolean got, long top, long bottom) {
+        due(call, got, true);
+        due(call + ": status", x.status(), 0);
+        due(call + ": top", x.top(), top);
+        due(call + ": bottom", x.bottom(), bottom);
+    }
+
+    /** Feeds a text, filled up to twenty bytes with blanks: how many bytes the text has itself. */
+    static int feed(CableDrawer x, String text) {
+        byte[] bytes = text.getBytes(StandardCharsets.ISO_8859_1);
+        byte[] padded = Arrays.copyOf(bytes, (bytes.length + 19) / 20 * 20);
+        Arrays.fill(padded, bytes.length, padded.length, (byte) ' ');
+        for (int i = 0; i < padded.length; i += 20) {
+            x.feed(four(padded, i), four(padded, i + 4), four(padded, i + 8), four(padded, i + 12), four(padded, i + 16));
+        }
+        return bytes.length;
+    }
+
+    private static int four(byte[] b, int i) {
+        return (b[i] & 255) << 24 | (b[i + 1] & 255) << 16 | (b[i + 2] & 255) << 8 | b[i + 3] & 255;
+    }
+
+    static int drawer(CableDrawer x, String text) {
+        return x.drawer(feed(x, text));
+    }
+
+    static int years(CableDrawer x, String text) {
+        return x.years(feed(x, text));
+    }
+
+    /** A new object with a DRAWER that must be good. */
+    static CableDrawer with(String text) {
+        CableDrawer x = new CableDrawer();
+        drawer(x, text);
+        due("drawer of " + text + ": status", x.status(), 0);
+        return x;
+    }
+
+    /** A new object with a DRAWER and YEARS that must be good. */
+    static CableDrawer with(String text, String years) {
+        CableDrawer x = with(text);
+        years(x, years);
+        due("years of " + years + ": status", x.status(), 0);
+        return x;
+    }
+
+    static void finish() {
+        System.out.println(asked + " answers, " + wrong + " not as due");
+        if (wrong != 0 || asked == 0) {
+            System.exit(1);
+        }
+    }
+}
