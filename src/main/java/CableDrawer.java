@@ -1150,7 +1150,7 @@ public final class CableDrawer {
 
         /** The STATE of a CROSSING when all is LOOSENED so often; below LOOSE it is gone. */
         int stateAfter(int k, int loosened) {
-            int state = stateAt(k);
+            int state = crossings.at(STATE, k);
             return state == KNOT ? KNOT : state - loosened;
         }
 
@@ -1387,9 +1387,15 @@ public final class CableDrawer {
         }
 
         private boolean perhapsEnds(Drawer drawer, int lead) {
-            return !tokens.wordIs(Tokens.ENDS)
-                || numberIs(Tokens.ENDS, drawer, lead, Drawer.FIRST_END, 1, 9)
-                && numberIs(NONE, drawer, lead, Drawer.SECOND_END, 1, 9);
+            if (!tokens.wordIs(Tokens.ENDS)) {
+                return true;
+            }
+            tokens.next();
+            int first = tokens.passNumber(1, 9);
+            int second = first == NONE ? NONE : tokens.passNumber(1, 9);
+            drawer.setNumber(Drawer.FIRST_END, lead, first);
+            drawer.setNumber(Drawer.SECOND_END, lead, second);
+            return second != NONE;
         }
 
         private boolean perhapsClip(Drawer drawer, int lead) {

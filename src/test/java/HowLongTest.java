@@ -63,6 +63,9 @@ public final class HowLongTest {
         // STIFF 4: FOLLOWED 10; twice LOOSENED 2 and PULLED 2; thrice LOOSENED 3
         CableDrawer z = Check.with(FOUR + "cross a b tight;");
         aloneIs(z, 0, 3, 3, 0, 0, 0);
+        // a KNOT takes a second each time, too: twice LOOSENED, 2 and 2, PULLED 2
+        CableDrawer v = Check.with(FOUR + "cross a b tight; cross c d knot;");
+        aloneIs(v, 0, 6, 2, 0, 0, 1);
         // others' CROSSINGS take SECONDS as well: 6 each time, until they fall out
         CableDrawer w = Check.with(FOUR + "cross a b tight; cross c d knot; cross c d knot; cross c d knot; cross c d knot;");
         aloneIs(w, 0, 10, 0, 0, 1, 0);
@@ -107,6 +110,7 @@ public final class HowLongTest {
         Check.due("all from END 0", x.follows(0, 3, 0), 27);
         Check.due("all from END 1", x.follows(0, 0, 3), 27);
         Check.due("c", x.follows(2, 0, 1), 5);
+        Check.due("c by a, END 0", x.follows(2, 1, 0), 15);
         Check.refused("below 0", x, x.follows(0, -1, 0), 5);
         Check.refused("below 0", x, x.follows(0, 3, -1), 5);
         Check.refused("more than it has", x, x.follows(0, 2, 2), 5);
@@ -166,6 +170,9 @@ public final class HowLongTest {
         orderIs(w, 1, 0, 0, 1);
         y.all();
         orderIs(w, 1, 0, 0, 1);
+        // a LOOSE one and 1, a KNOT and 1: 18; LOOSENED once 2, and 16: the least l
+        CableDrawer v = Check.with("lead a long 9 stiff 1; lead b long 9 stiff 1; cross a b; cross a b knot;");
+        orderIs(v, 18, 0, 0, 1);
     }
 
     private static void soonest() {

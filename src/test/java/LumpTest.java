@@ -61,6 +61,7 @@ public final class LumpTest {
             Check.due("free(" + lead + ")", x.free(lead), free[lead]);
         }
         Check.due("easy", x.easy(), 224);
+        Check.due("the first, too", Check.with("lead a long 9; lead b long 9; cross a b;").easy(), 3);
         x.cut(6);
         Check.due("not IN, not FREE", x.free(6), 0);
         Check.due("status", x.status(), 0);
@@ -133,6 +134,16 @@ public final class LumpTest {
         Check.due("of several the first", y.key(), 0);
         CableDrawer z = Check.with("lead a long 9; lead b long 9; lead c long 9; cross b c tight;");
         Check.due("b leaves none that hang together", z.key(), 1);
+        StringBuilder eight = new StringBuilder();
+        for (char c = 'a'; c <= 'h'; c++) {
+            eight.append("lead ").append(c).append(" long 9;");
+            for (char b = 'a'; b < c && c <= 'e'; b++) {
+                eight.append("cross ").append(b).append(' ').append(c).append(" knot;");
+            }
+        }
+        eight.append("cross e f tight; cross d f tight; cross g f tight; cross g e tight; cross h g tight; cross a h tight;");
+        Check.due("all of eight hang together", Check.with(eight.toString()).lumps(1), 8);
+        Check.due("whichever is CUT, the seven do", Check.with(eight.toString()).key(), 0);
         z.cut(1);
         Check.due("of those that are IN", z.key(), 0);
         z.cut(0);

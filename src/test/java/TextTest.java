@@ -48,6 +48,11 @@ public final class TextTest {
         Check.due("without a text", x.drawer(0), 0);
         Check.due("status", x.status(), 0);
         Check.due("leads", x.many(0), 0);
+        Check.due("none is IN", x.many(3), 0);
+        Check.due("a LEAD with the NAME of a LOOK ahead", Check.drawer(x, "lead c long 9; lead az long 9; look a az;"), 2);
+        Check.due("the LOOK is another one", x.look(0), 2);
+        Check.due("a LEAD with the NAME of that LOOK", Check.drawer(x, "lead a long 9; lead z long 9; look zz z;"), 2);
+        Check.due("and that of a LEAD", Check.drawer(x, "lead q long 9; look z q; lead a long 9 clip;"), 2);
 
         CableDrawer y = Check.with(TWO + "cross a b;", "open 1;");
         y.loosen();

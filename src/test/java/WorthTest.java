@@ -117,6 +117,8 @@ public final class WorthTest {
         Check.due("9, 9, 5 4", x.boxes(9), 3);
         Check.refused("8", x, x.boxes(8), 9);
         Check.due("without LEADS", new CableDrawer().boxes(1), 0);
+        CableDrawer first = Check.with("lead a long 9; lead b long 5;");
+        Check.refused("the first is longer", first, first.boxes(8), 9);
     }
 
     private static void boxesNotByTheLongestFirst() {

@@ -103,6 +103,13 @@ public final class YearsTest {
         Check.due("b c is left", y.many(1), 1);
         Check.due("THREADED now", y.crossing(0, 2), 1);
         Check.refused("a taking is no alone()", y, y.way(0), 8);
+        // a is FOLLOWED twice from END 0, 15 and 15, and PULLED out of what is LOOSE; from END 1 it is 8 and 8 more
+        CableDrawer z = Check.with("lead a long 9; lead b long 9; lead c long 9 stiff 7; cross a b knot; cross a b knot;"
+            + "cross a c; cross a c; cross b c knot; cross b c knot;", "take a;");
+        livedIs(z, 1, 0, 0, 0, 1, 0);
+        Check.due("SECONDS", z.many(5), 32);
+        Check.due("b c twice are left", z.many(1), 2);
+        Check.due("KNOTS", z.inState(3), 2);
     }
 
     private static void draws() {
@@ -156,6 +163,8 @@ public final class YearsTest {
         livedIs(z, 300, 0, 0, 0, 0, 0);
         CableDrawer w = Check.with(THREE, "loosen; loop 99; loosen; loosen; loosen; end; when cross = 9; pull a; end;");
         livedIs(w, 300, 0, 0, 0, 0, 0);
+        Check.years(y, "stop;");
+        livedIs(y, 1, 0, 0, 0, 0, 0);
         CableDrawer v = Check.with(THREE, "loosen; loop 99; loosen; loosen; loosen; end; when cross = 0; pull a; end;");
         livedIs(v, 300, 0, 0, 0, 0, 1);
         Check.due("no PULL", v.many(5), 0);
@@ -177,6 +186,8 @@ public final class YearsTest {
         Check.refused("seed", x, x.mean(-1, 1), 5);
         Check.refused("seed", x, x.mean(10000, 1), 5);
         Check.refused("none", x, x.mean(0, 0), 5);
+        Check.refused("none, from 5 on", x, x.mean(5, 0), 5);
+        Check.refused("seed -1 and four more", x, x.mean(-1, 5), 5);
         Check.refused("21", x, x.mean(0, 21), 5);
         Check.refused("the last above 9,999", x, x.mean(9981, 20), 5);
         Check.refused("far above", x, x.mean(Integer.MAX_VALUE, Integer.MAX_VALUE), 5);
