@@ -716,7 +716,7 @@ public final class CableDrawer {
                 return;
             }
             kind = start >= size ? KIND_END : isSign(byteAt(start)) ? KIND_SIGN : KIND_BAD;
-            stop = start + 1;
+            stop = Math.min(start + 1, size);
         }
 
         boolean atEnd() {
@@ -868,7 +868,7 @@ public final class CableDrawer {
         private int seconds;
         private int pence;
         private int openings;
-        private int drawn;
+        private int draw;
 
         void clear() {
             years.clear();
@@ -1216,7 +1216,7 @@ public final class CableDrawer {
         // -- OPENINGS
 
         void drawFrom(int seed) {
-            drawn = seed;
+            draw = seed;
         }
 
         /** One OPENING by the draws that come next: how many CROSSINGS came. */
@@ -1237,15 +1237,20 @@ public final class CableDrawer {
             if (many == 0) {
                 return 0;
             }
-            int other = memberAt(others, drawBy(many));
+            // The draw is made for a full row, too: the draws behind it stay what they are.
+            int drawn = drawBy(many);
+            if (isFull()) {
+                return 0;
+            }
+            int other = memberAt(others, drawn);
             int slip = Math.min(LARGEST_END, numbers.at(STIFF, other) + 2);
             boolean threads = numbers.at(FIRST_END, lead) < slip || numbers.at(SECOND_END, lead) < slip;
             return addCrossing(lead, other, threads ? THREADED : LOOSE) ? 1 : 0;
         }
 
         private int drawBy(int n) {
-            drawn = (drawn * 2897 + 10529) & 65535;
-            return n > 0 ? (drawn >> 3) % n : 0;
+            draw = (draw * 2897 + 10529) & 65535;
+            return n > 0 ? (draw >> 3) % n : 0;
         }
 
         private static int memberAt(int set, int k) {
