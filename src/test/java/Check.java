@@ -1,19 +1,59 @@
+import java.io.IOException;
 import java.nio.charset.StandardCharsets;
+import java.nio.file.Files;
+import java.nio.file.Path;
 import java.util.Arrays;
 
 /** Counts answers that are not the ones that are due, and feeds texts to a CableDrawer. */
 final class Check {
+    /** Where sentence() looks for a sentence that no promise tells of its own. */
+    static final int TERMS = 0;
+
+    private static final Path DOCUMENT = Path.of("../shared/DOC.md");
+
     private static int wrong = 0;
     private static int asked = 0;
+    private static int sentences = 0;
+    private static String held = "";
+    private static String document = null;
 
     private Check() {
+    }
+
+    /**
+     * Says which sentence the checks that follow hold: of a promise's own section, or of the sections ahead of
+     * them (TERMS). Words that don't stand there are wrong themselves.
+     */
+    static void sentence(int promise, String words) {
+        sentences++;
+        held = (promise == TERMS ? "Terms" : "Promise " + promise) + ", \"" + words + "\": ";
+        if (Files.exists(DOCUMENT)) {
+            due("these words stand there", section(promise).contains(onOneLine(words)), true);
+        }
+    }
+
+    private static String section(int promise) {
+        if (document == null) {
+            try {
+                document = onOneLine(Files.readString(DOCUMENT)) + " ## ";
+            } catch (IOException e) {
+                throw new IllegalStateException(e);
+            }
+        }
+        int from = promise == TERMS ? 0 : document.indexOf("## Promise " + promise + ": ");
+        int to = document.indexOf(promise == TERMS ? "## Promise 1: " : " ## ", Math.max(from, 0) + 3);
+        return from < 0 || to < from ? "" : document.substring(from, to);
+    }
+
+    private static String onOneLine(String text) {
+        return text.replaceAll("\\s+", " ");
     }
 
     static void due(String call, long got, long want) {
         asked++;
         if (got != want) {
             wrong++;
-            System.out.println(call + " answered " + got + ", due is " + want);
+            System.out.println(held + call + " answered " + got + ", due is " + want);
         }
     }
 
@@ -32,11 +72,30 @@ final class Check {
         due(call + ": status", x.status(), status);
     }
 
+    /** A call that answers: its answer, and STATUS 0. */
+    static void answers(String call, CableDrawer x, long got, long want) {
+        due(call, got, want);
+        due(call + ": status", x.status(), 0);
+    }
+
+    static void answers(String call, CableDrawer x, boolean got) {
+        due(call, got, true);
+        due(call + ": status", x.status(), 0);
+    }
+
     static void fraction(String call, CableDrawer x, boolean got, long top, long bottom) {
         due(call, got, true);
         due(call + ": status", x.status(), 0);
         due(call + ": top", x.top(), top);
         due(call + ": bottom", x.bottom(), bottom);
+    }
+
+    /** Each CROSSING of the row as over, under, STATE. */
+    static void row(CableDrawer x, int... want) {
+        due("crossings", x.many(1), want.length / 3);
+        for (int i = 0; i < want.length; i++) {
+            due("crossing(" + i / 3 + ", " + i % 3 + ")", x.crossing(i / 3, i % 3), want[i]);
+        }
     }
 
     /** Feeds a text, filled up to twenty bytes with blanks: how many bytes the text has itself. */
@@ -79,7 +138,8 @@ final class Check {
     }
 
     static void finish() {
-        System.out.println(asked + " answers, " + wrong + " not as due");
+        System.out.println(asked + " answers, " + wrong + " not as due"
+            + (sentences > 0 ? "; " + sentences + " sentences" : ""));
         if (wrong != 0 || asked == 0) {
             System.exit(1);
         }
