@@ -113,6 +113,15 @@ final class Check {
         return (b[i] & 255) << 24 | (b[i + 1] & 255) << 16 | (b[i + 2] & 255) << 8 | b[i + 3] & 255;
     }
 
+    /** The text of so many LEADS, a, b and so on, each with the same words behind its NAME. */
+    static String leads(int many, String words) {
+        StringBuilder text = new StringBuilder();
+        for (int n = 0; n < many; n++) {
+            text.append("lead ").append((char) ('a' + n)).append(' ').append(words).append(';');
+        }
+        return text.toString();
+    }
+
     static int drawer(CableDrawer x, String text) {
         return x.drawer(feed(x, text));
     }

@@ -17,25 +17,17 @@ public final class DoneTest {
         Check.finish();
     }
 
-    /** Each CROSSING as over, under, STATE. */
-    private static void row(CableDrawer x, int... want) {
-        Check.due("crossings", x.many(1), want.length / 3);
-        for (int i = 0; i < want.length; i++) {
-            Check.due("crossing(" + i / 3 + ", " + i % 3 + ")", x.crossing(i / 3, i % 3), want[i]);
-        }
-    }
-
     private static void follow() {
         CableDrawer x = Check.with(TANGLE);
         Check.due("LOOSE and 4", x.follow(0, 0), 5);
         Check.due("status", x.status(), 0);
-        row(x, 1, 2, 1, 0, 2, 2, 2, 0, 3, 0, 1, 1);
+        Check.row(x, 1, 2, 1, 0, 2, 2, 2, 0, 3, 0, 1, 1);
         Check.due("THREADED and 4", x.follow(0, 1), 7);
-        row(x, 1, 2, 1, 0, 2, 2, 2, 0, 3);
+        Check.row(x, 1, 2, 1, 0, 2, 2, 2, 0, 3);
         Check.due("KNOT and 0", x.follow(2, 1), 15);
         Check.due("TIGHT and 1", x.follow(0, 1), 7);
         Check.due("THREADED and 1", x.follow(1, 0), 4);
-        row(x);
+        Check.row(x);
         Check.due("SECONDS", x.many(5), 38);
         Check.refused("no CROSSING", x, x.follow(0, 0), 8);
         Check.refused("no such LEAD", x, x.follow(4, 0), 2);
@@ -51,13 +43,13 @@ public final class DoneTest {
     private static void loosen() {
         CableDrawer x = Check.with(TANGLE);
         Check.due("loosen", x.loosen(), 5);
-        row(x, 1, 2, 0, 0, 2, 1, 2, 0, 3, 0, 1, 0);
+        Check.row(x, 1, 2, 0, 0, 2, 1, 2, 0, 3, 0, 1, 0);
         Check.due("loosen", x.loosen(), 4);
-        row(x, 0, 2, 0, 2, 0, 3);
+        Check.row(x, 0, 2, 0, 2, 0, 3);
         Check.due("loosen", x.loosen(), 2);
-        row(x, 2, 0, 3);
+        Check.row(x, 2, 0, 3);
         Check.due("a KNOT stays", x.loosen(), 1);
-        row(x, 2, 0, 3);
+        Check.row(x, 2, 0, 3);
         Check.due("SECONDS", x.many(5), 12);
         CableDrawer y = new CableDrawer();
         Check.due("none there", y.loosen(), 0);
@@ -67,14 +59,14 @@ public final class DoneTest {
     private static void pull() {
         CableDrawer x = Check.with(TANGLE);
         Check.due("a with b and c", x.pull(0), 3);
-        row(x, 1, 2, 1, 0, 2, 3, 2, 0, 3, 0, 1, 2);
+        Check.row(x, 1, 2, 1, 0, 2, 3, 2, 0, 3, 0, 1, 2);
         Check.due("b with a and c", x.pull(1), 3);
-        row(x, 1, 2, 2, 0, 2, 3, 2, 0, 3, 0, 1, 3);
+        Check.row(x, 1, 2, 2, 0, 2, 3, 2, 0, 3, 0, 1, 3);
         Check.due("d comes", x.pull(3), 1);
         Check.due("SECONDS", x.many(5), 6);
         CableDrawer y = Check.with("lead a long 9; lead b long 9; cross a b; cross b a;");
         Check.due("LOOSE ones don't hold it", y.pull(1), 1);
-        row(y);
+        Check.row(y);
         Check.due("it is free", y.free(1), 1);
         Check.due("SECONDS", y.many(5), 2);
         Check.refused("no such LEAD", y, y.pull(2), 2);
@@ -87,7 +79,7 @@ public final class DoneTest {
     private static void cut() {
         CableDrawer x = Check.with(TANGLE);
         Check.due("cut(0)", x.cut(0), 4);
-        row(x, 1, 2, 1);
+        Check.row(x, 1, 2, 1);
         Check.due("IN", x.many(3), 14);
         Check.due("PENCE", x.many(6), 50);
         Check.due("SECONDS", x.many(5), 0);
@@ -129,7 +121,7 @@ public final class DoneTest {
         CableDrawer x = Check.with("lead a long 9; lead b long 9; lead c long 9 clip; lead d long 9;");
         Check.due("the first", x.cross(1, 0, 3), 1);
         Check.due("behind the last one", x.cross(0, 3, 0), 2);
-        row(x, 1, 0, 3, 0, 3, 0);
+        Check.row(x, 1, 0, 3, 0, 3, 0);
         Check.due("no SECONDS", x.many(5), 0);
         Check.refused("no such LEAD", x, x.cross(4, 4, 9), 2);
         Check.refused("no such LEAD", x, x.cross(0, -1, 0), 2);
@@ -155,7 +147,7 @@ public final class DoneTest {
         // 1,316 by 16 is 4: less than RISK 5, not less than RISK 4
         CableDrawer x = Check.with("lead a long 10 ends 3 4; lead b long 2; lead c long 2 stiff 1;");
         Check.due("a is crossed, with 4,850 by 2 the first of the others", x.open(0), 1);
-        row(x, 0, 1, 0);
+        Check.row(x, 0, 1, 0);
         Check.due("no SECONDS", x.many(5), 0);
         Check.due("OPENINGS", x.many(7), 1);
         CableDrawer y = Check.with("lead a long 9; lead b long 2;");
@@ -164,16 +156,16 @@ public final class DoneTest {
         // an END smaller than STIFF and 2
         CableDrawer z = Check.with("lead a long 10 ends 9 3; lead b long 2 stiff 2;");
         z.open(0);
-        row(z, 0, 1, 1);
+        Check.row(z, 0, 1, 1);
         CableDrawer w = Check.with("lead a long 10 ends 4 4; lead b long 2 stiff 2;");
         w.open(0);
-        row(w, 0, 1, 0);
+        Check.row(w, 0, 1, 0);
         CableDrawer v = Check.with("lead a long 10 ends 9 9; lead b long 2 stiff 9;");
         v.open(0);
-        row(v, 0, 1, 0);
+        Check.row(v, 0, 1, 0);
         CableDrawer u = Check.with("lead a long 10 ends 8 9; lead b long 2 stiff 9;");
         u.open(0);
-        row(u, 0, 1, 1);
+        Check.row(u, 0, 1, 1);
         Check.refused("seed -1", u, u.open(-1), 5);
         Check.refused("seed 10,000", u, u.open(10000), 5);
         Check.due("OPENINGS", u.many(7), 1);
@@ -187,27 +179,27 @@ public final class DoneTest {
         // a with a CLIP draws nothing: b draws 1,316 by 16, 4; then 4,850 by 2, the first: c
         CableDrawer x = Check.with("lead a long 30 clip; lead b long 12; lead c long 2; lead d long 2;");
         Check.due("open(0)", x.open(0), 1);
-        row(x, 1, 2, 0);
+        Check.row(x, 1, 2, 0);
         // a that is CUT draws nothing
         CableDrawer y = Check.with("lead a long 30; lead b long 12; lead c long 2;");
         y.cut(0);
         y.open(0);
-        row(y, 1, 2, 0);
+        Check.row(y, 1, 2, 0);
         // a of RISK 0 draws 4; b draws 4,850 by 16, 2, and then 3,210 by 3, the first: a
         CableDrawer z = Check.with("lead a long 1; lead b long 6; lead c long 1; lead d long 1;");
         z.open(0);
-        row(z, 1, 0, 0);
+        Check.row(z, 1, 0, 0);
         // alone among those without a CLIP: one draw, nothing comes, and b, too, is passed
         CableDrawer w = Check.with("lead a long 30; lead b long 30 clip;");
         Check.due("none to be crossed with", w.open(0), 0);
         // a and b: 4 < 6; 4,850 by 1; 3,210 by 16 is 10, not less than 10
         CableDrawer v = Check.with("lead a long 12; lead b long 20;");
         v.open(0);
-        row(v, 0, 1, 0);
+        Check.row(v, 0, 1, 0);
         // the same with RISK 11
         CableDrawer u = Check.with("lead a long 12; lead b long 22;");
         u.open(0);
-        row(u, 0, 1, 0, 1, 0, 0);
+        Check.row(u, 0, 1, 0, 1, 0, 0);
     }
 
     private static void openWithFullRow() {

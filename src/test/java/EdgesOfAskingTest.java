@@ -20,14 +20,6 @@ public final class EdgesOfAskingTest {
         Check.finish();
     }
 
-    private static String eight() {
-        StringBuilder text = new StringBuilder();
-        for (char c = 'a'; c <= 'h'; c++) {
-            text.append("lead ").append(c).append(" long 9;");
-        }
-        return text.toString();
-    }
-
     private static void many() {
         Check.sentence(13, "LEADS (what 0), CROSSINGS (1), LOOKS (2), the set of LEADS that are IN (3: 1 for LEAD 0 ..), "
             + "with a CLIP and IN (4), SECONDS spent (5), PENCE spent (6), OPENINGS (7) (5).");
@@ -50,7 +42,7 @@ public final class EdgesOfAskingTest {
 
     private static void manySets() {
         Check.sentence(13, "the set of LEADS that are IN (3: 1 for LEAD 0 ..), with a CLIP and IN (4)");
-        CableDrawer x = Check.with(eight().replace(";", " clip;"));
+        CableDrawer x = Check.with(Check.leads(8, "long 9 clip"));
         Check.due("all eight IN", x.many(3), 255);
         Check.due("all eight with a CLIP", x.many(4), 255);
         int in = 255;
@@ -61,7 +53,7 @@ public final class EdgesOfAskingTest {
             Check.due("IN without " + lead, x.many(3), in);
             Check.due("with a CLIP and IN without " + lead, x.many(4), in);
         }
-        CableDrawer y = Check.with(eight());
+        CableDrawer y = Check.with(Check.leads(8, "long 9"));
         Check.due("none with a CLIP", y.many(4), 0);
         y.clip(7);
         Check.due("the last one", y.many(4), 128);
@@ -73,7 +65,7 @@ public final class EdgesOfAskingTest {
 
     private static void manySums() {
         Check.sentence(13, "SECONDS spent (5), PENCE spent (6), OPENINGS (7)");
-        CableDrawer x = Check.with(eight().replace(";", " costs 999;"));
+        CableDrawer x = Check.with(Check.leads(8, "long 9 costs 999"));
         for (int lead = 0; lead < 8; lead++) {
             x.cut(lead);
         }
@@ -169,7 +161,7 @@ public final class EdgesOfAskingTest {
 
     private static void crossing() {
         Check.sentence(15, "Of the k-th CROSSING, what 0: the LEAD over, 1: the other one, 2: STATE (5; 8: no such).");
-        CableDrawer x = Check.with(eight());
+        CableDrawer x = Check.with(Check.leads(8, "long 9"));
         Check.refused("none", x, x.crossing(0, 0), 8);
         for (int n = 0; n < 24; n++) {
             x.cross(n % 8, (n + 1 + n / 8) % 8, n % 4);
@@ -215,7 +207,7 @@ public final class EdgesOfAskingTest {
 
     private static void look() {
         Check.sentence(17, "The set of LEADS of a LOOK (2).");
-        CableDrawer x = Check.with(eight() + "look l a;look m h;look n h g f e d c b a;");
+        CableDrawer x = Check.with(Check.leads(8, "long 9") + "look l a;look m h;look n h g f e d c b a;");
         Check.answers("the first LEAD alone", x, x.look(0), 1);
         Check.answers("the last LEAD alone", x, x.look(1), 128);
         Check.answers("all eight", x, x.look(2), 255);

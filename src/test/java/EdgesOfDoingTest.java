@@ -388,13 +388,10 @@ public final class EdgesOfDoingTest {
         Check.sentence(Check.TERMS, "it is crossed with another one that is IN and without a CLIP: "
             + "the k-th of these by numbers (0 the first), by a draw by how many there are");
         for (int others = 1; others <= 7; others++) {
-            StringBuilder text = new StringBuilder("lead a long 30;");
-            for (int n = 1; n <= others; n++) {
-                text.append("lead ").append((char) ('a' + n)).append(" long 1;");
-            }
+            String text = "lead z long 30;" + Check.leads(others, "long 1");
             for (int seed = 0; seed < 60; seed++) {
                 if (draw(seed, 1, 16) < 15) {
-                    CableDrawer x = Check.with(text.toString());
+                    CableDrawer x = Check.with(text);
                     Check.answers("open(" + seed + ")", x, x.open(seed), 1);
                     Check.row(x, 0, 1 + draw(seed, 2, others), 0);
                 }

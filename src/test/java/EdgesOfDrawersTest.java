@@ -394,10 +394,7 @@ public final class EdgesOfDrawersTest {
         fails(three + "look o a;", 6, three.length());
         fails(three + "cross a b; look a", 6, three.length() + 11);
         Check.sentence(Check.TERMS, "or look NAME NAME {NAME} ;");
-        StringBuilder eight = new StringBuilder();
-        for (char c = 'a'; c <= 'h'; c++) {
-            eight.append("lead ").append(c).append(" long 9;");
-        }
+        String eight = Check.leads(8, "long 9");
         Check.due("all of eight", Check.with(eight + "look l h a g b f c e d;").look(0), 255);
         fails(eight + "look l h a g b f c e d a;", 5, eight.length() + 23);
         fails(eight + "look l h a g b f c e d d;", 5, eight.length() + 23);
@@ -436,10 +433,7 @@ public final class EdgesOfDrawersTest {
         // a NAME that is no LEAD can't be one with a CLIP
         fails(CLIPPED + "look l a;cross l c;", 3, CLIPPED.length() + 15);
         // the ninth lead ahead of what is wrong with it
-        StringBuilder eight = new StringBuilder();
-        for (char c = 'a'; c <= 'h'; c++) {
-            eight.append("lead ").append(c).append(" long 9;");
-        }
+        String eight = Check.leads(8, "long 9");
         fails(eight + "lead a long 0 ?", 6, eight.length());
         fails(eight + "lead", 6, eight.length());
     }
@@ -489,10 +483,7 @@ public final class EdgesOfDrawersTest {
     private static void faultSix() {
         Check.sentence(Check.TERMS, "6 a ninth lead, a 25th cross, a fourth look (at that WORD).");
         // each number for itself: eight LEADS, 24 CROSSINGS and three LOOKS at once
-        StringBuilder text = new StringBuilder();
-        for (char c = 'a'; c <= 'h'; c++) {
-            text.append("lead ").append(c).append(" long 9;");
-        }
+        StringBuilder text = new StringBuilder(Check.leads(8, "long 9"));
         text.append("look i a;look j b;look k a b c d e f g h;");
         for (int n = 0; n < 24; n++) {
             text.append("cross a ").append((char) ('b' + n % 7)).append(";");
@@ -544,18 +535,8 @@ public final class EdgesOfDrawersTest {
         Scene.refuses("901 of 900", Scene::fed, x -> x.drawer(901), 5);
         Scene.refuses("1 of none", Scene::blank, x -> x.drawer(1), 5);
         Check.sentence(Check.TERMS, "gives NONE, or false, and changes nothing but STATUS (but drawer(), years() with 10 the tape, and what fault() tells)");
-        // 13 bytes of its text have no end; then both get a tape and a FAULT alike
-        CableDrawer x = Scene.full();
-        CableDrawer y = Scene.full();
-        Check.refused("drawer(13)", x, x.drawer(13), 10);
-        Check.due("what it changes", x.fault(1), 13);
-        Check.due("what it changes", x.feed(0, 0, 0, 0, 0), 20);
-        x.drawer(1);
-        y.drawer(1);
-        y.feed(0, 0, 0, 0, 0);
-        y.drawer(1);
-        String difference = Scene.difference(x, y);
-        Check.due("what it leaves as it was (" + difference + ")", difference.isEmpty(), true);
+        // 13 bytes of "lead z long 3;"
+        Scene.faulty("drawer(13)", x -> x.drawer(13), 2, 13);
     }
 
     private static void fault() {

@@ -23,11 +23,7 @@ public final class EdgesOfHangingTest {
     }
 
     private static String leads(int many) {
-        StringBuilder text = new StringBuilder();
-        for (int n = 0; n < many; n++) {
-            text.append("lead ").append((char) ('a' + n)).append(" long 9;");
-        }
-        return text.toString();
+        return Check.leads(many, "long 9");
     }
 
     private static void notLoose() {

@@ -149,10 +149,7 @@ public final class EdgesOfLivingTest {
         compares("", "lump", 0, 0, 8);
         compares("lead a long 9;", "lump", 1, 0, 8);
         compares(THREE + "cross a b;", "lump", 1, 0, 8);
-        StringBuilder text = new StringBuilder();
-        for (char c = 'a'; c <= 'h'; c++) {
-            text.append("lead ").append(c).append(" long 9;");
-        }
+        StringBuilder text = new StringBuilder(Check.leads(8, "long 9"));
         for (char c = 'b'; c <= 'h'; c++) {
             text.append("cross ").append(c).append(' ').append((char) (c - 1)).append(" threaded;");
             compares(text.toString(), "lump", c - 'a' + 1, 0, 8);

@@ -136,11 +136,8 @@ public final class EdgesOfMarksTest {
         CableDrawer x = Check.with(THREE);
         x.loosen();
         x.mark();
-        StringBuilder eight = new StringBuilder();
-        for (char c = 'p'; c <= 'w'; c++) {
-            eight.append("lead ").append(c).append(" long 30 stiff 5 costs 900 used 3;");
-        }
-        Check.answers("eight LEADS", x, Check.drawer(x, eight + "look x p;look y p;look z p q;"), 8);
+        String eight = Check.leads(8, "long 30 stiff 5 costs 900 used 3");
+        Check.answers("eight LEADS", x, Check.drawer(x, eight + "look x a;look y a;look z a b;"), 8);
         Check.answers("MARKS stay", x, x.mark(), 2);
         Check.answers("drawer of no bytes", x, x.drawer(0), 0);
         x.back();
@@ -159,7 +156,7 @@ public final class EdgesOfMarksTest {
         Check.answers("SECONDS", x, x.many(5), 2);
         Check.row(x, 0, 1, 1);
         Check.answers("its NAMES", x, Check.years(x, "take a;take b;take c;"), 3);
-        Check.refused("the others' NAMES", x, Check.years(x, "take p;"), 10);
+        Check.refused("the others' NAMES", x, Check.years(x, "take d;"), 10);
         Check.due("fault(0)", x.fault(0), 3);
     }
 

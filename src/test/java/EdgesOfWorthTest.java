@@ -71,11 +71,7 @@ public final class EdgesOfWorthTest {
         Check.fraction("one with a CLIP alone", x, x.grows(), 0, 1);
         x.cut(1);
         Check.fraction("none is IN", x, x.grows(), 0, 1);
-        StringBuilder text = new StringBuilder();
-        for (char c = 'a'; c <= 'h'; c++) {
-            text.append("lead ").append(c).append(" long 30;");
-        }
-        CableDrawer eight = Check.with(text.toString());
+        CableDrawer eight = Check.with(Check.leads(8, "long 30"));
         Check.fraction("eight times 15", eight, eight.grows(), 15, 2);
         for (int n = 0; n < 24; n++) {
             eight.cross(0, 1, 3);
@@ -93,11 +89,7 @@ public final class EdgesOfWorthTest {
         CableDrawer most = Check.with("lead a long 30;lead b long 30;");
         Check.answers("the fewest", most, most.clips(), 3);
         // 1 by 16 times 5, and 96 SECONDS: 307.2
-        StringBuilder text = new StringBuilder("lead a long 2;");
-        for (char c = 'b'; c <= 'h'; c++) {
-            text.append("lead ").append(c).append(" long 1;");
-        }
-        CableDrawer least = Check.with(text.toString());
+        CableDrawer least = Check.with(Check.leads(7, "long 1") + "lead z long 2;");
         Check.answers("the most", least, least.clips(), 308);
         // 12 by 16 times 5 is 3.75: 60 SECONDS are 16 of these, which is not more
         CableDrawer even = Check.with("lead a long 16;lead b long 8;lead c long 1;lead d long 1;lead e long 1;");

@@ -317,18 +317,7 @@ public final class EdgesOfYearsTest {
         Scene.refuses("900 of 900", Scene::fed, x -> x.years(900), 5);
         Scene.refuses("1 of none", Scene::blank, x -> x.years(1), 5);
         Check.sentence(Check.TERMS, "gives NONE, or false, and changes nothing but STATUS (but drawer(), years() with 10 the tape, and what fault() tells)");
-        // the text of a DRAWER is a FAULT here; then both get a tape and a FAULT alike
-        CableDrawer x = Scene.full();
-        CableDrawer y = Scene.full();
-        Check.refused("years(20)", x, x.years(20), 10);
-        Check.due("what it changes", x.fault(0), 2);
-        Check.due("what it changes", x.fault(1), 0);
-        Check.due("what it changes", x.feed(0, 0, 0, 0, 0), 20);
-        x.drawer(1);
-        y.drawer(1);
-        y.feed(0, 0, 0, 0, 0);
-        y.drawer(1);
-        String difference = Scene.difference(x, y);
-        Check.due("what it leaves as it was (" + difference + ")", difference.isEmpty(), true);
+        // the text of a DRAWER is a FAULT here
+        Scene.faulty("years(20)", x -> x.years(20), 2, 0);
     }
 }

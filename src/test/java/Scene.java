@@ -103,6 +103,23 @@ final class Scene {
         same(call, x, made.get());
     }
 
+    /** A text that has a FAULT: NONE, STATUS 10, and it changes nothing else but the tape and what fault() tells. */
+    static void faulty(String call, ToLongFunction<CableDrawer> asked, int kind, int place) {
+        CableDrawer x = full();
+        CableDrawer y = full();
+        Check.refused(call, x, asked.applyAsLong(x), 10);
+        Check.due(call + ": fault(0)", x.fault(0), kind);
+        Check.due(call + ": fault(1)", x.fault(1), place);
+        Check.due(call + ": the tape is empty then", x.feed(0, 0, 0, 0, 0), 20);
+        // a FAULT of the same kind at the same place for both
+        x.drawer(20);
+        y.feed(0, 0, 0, 0, 0);
+        y.drawer(40);
+        y.feed(0, 0, 0, 0, 0);
+        y.drawer(20);
+        same(call, x, y);
+    }
+
     /** A call that answers with STATUS 0, and leaves all as it was. */
     static void keeps(String call, Supplier<CableDrawer> made, ToLongFunction<CableDrawer> asked) {
         CableDrawer x = made.get();

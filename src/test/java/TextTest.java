@@ -147,11 +147,8 @@ public final class TextTest {
     }
 
     private static void faultsOfTooMany() {
-        StringBuilder eight = new StringBuilder();
-        for (char c = 'a'; c <= 'h'; c++) {
-            eight.append("lead ").append(c).append(" long 9;");
-        }
-        Check.due("eight leads", Check.with(eight.toString()).many(0), 8);
+        String eight = Check.leads(8, "long 9");
+        Check.due("eight leads", Check.with(eight).many(0), 8);
         fails(eight + "lead", 6, eight.length());
         fails(eight + "lead a 77777", 6, eight.length());
         StringBuilder full = new StringBuilder(TWO);
