@@ -413,6 +413,18 @@ public final class EdgesOfDrawersTest {
         fails(TWO + "look l a;look m l;", 3, 44);
         fails(TWO + "look l l;", 3, 35);
         good("lead a long 9;look l a;lead b long 9;cross b a;look m b;", 2);
+        // the NAMES of a DRAWER that was told ahead are none of this one
+        String[] texts = {"lead a long 9;cross a b;", "lead a long 9;look m b;", "lead a long 9;look m l;", "look m a;"};
+        int[] places = {22, 21, 21, 7};
+        for (int i = 0; i < texts.length; i++) {
+            CableDrawer x = Check.with(TWO + "look l a;");
+            Check.refused("drawer of " + texts[i], x, Check.drawer(x, texts[i]), 10);
+            Check.due("fault(0) of " + texts[i], x.fault(0), 3);
+            Check.due("fault(1) of " + texts[i], x.fault(1), places[i]);
+            Check.refused("once more", x, Check.drawer(x, texts[i]), 10);
+            Check.due("fault(1) of " + texts[i], x.fault(1), places[i]);
+            Check.answers("NAMES that were taken there", x, Check.drawer(x, "lead l long 9;lead q long 9;look a q;look b l;"), 2);
+        }
     }
 
     private static void faultThatComesFirst() {
@@ -517,14 +529,23 @@ public final class EdgesOfDrawersTest {
         Check.refused("no YEARS", x, x.mean(0, 1), 8);
         Check.refused("no YEARS", x, x.odds(0, 0, 1), 8);
         Check.refused("no third LEAD", x, x.lead(2, 0), 2);
-        Check.due("what a LEAD ahead was told does not come to this one", x.lead(0, 4), 0);
+        int[] bare = {9, 0, 3, 3, 0, 0, 0, 4};
+        for (int what = 0; what < bare.length; what++) {
+            Check.due("what a LEAD ahead was told does not come to this one: lead(0, " + what + ")", x.lead(0, what), bare[what]);
+        }
         CableDrawer same = emptied();
         Check.answers("its own text once more", same, Check.drawer(same, TWO + "lead c long 9 clip;lead d long 9;lead e long 9;"), 5);
         Check.due("the one that was CUT is IN", same.many(3), 31);
         Check.due("the one with a CLIP has none", same.many(4), 4);
         CableDrawer none = Scene.full();
+        // calls that try what would be spend nothing of it
+        none.worse(0, 1);
+        none.mean(0, 2);
+        none.odds(0, 0, 2);
         Check.answers("of no bytes, too", none, none.drawer(0), 0);
-        Check.due("LEADS", none.many(0), 0);
+        for (int what = 0; what < due.length; what++) {
+            Check.answers("many(" + what + ") without LEADS", none, none.many(what), 0);
+        }
         Check.refused("no YEARS", none, none.live(0), 8);
     }
 

@@ -40,6 +40,13 @@ public final class EdgesOfHangingTest {
         Check.answers("one of four is not LOOSE", one, one.lump(1), 3);
         CableDrawer none = Check.with(TWO);
         Check.answers("without a CROSSING", none, none.lump(1), 2);
+        CableDrawer gone = Check.with(TWO + "lead c long 9;cross a c;cross a b knot;");
+        gone.follow(1, 0);
+        Check.answers("one that is gone holds none", gone, gone.lump(0), 1);
+        Check.answers("one that is gone holds none", gone, gone.easy(), 7);
+        gone.cross(2, 1, 1);
+        gone.loosen();
+        Check.answers("one that was LOOSENED holds none", gone, gone.lumps(1), 1);
     }
 
     private static void andSoOn() {

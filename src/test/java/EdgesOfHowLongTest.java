@@ -290,6 +290,8 @@ public final class EdgesOfHowLongTest {
         allIs("lead a long 9;lead b long 9;cross a b;cross a b;", 2, 0, 0, 1);
         // THREADED by STIFF 0: FOLLOWED 3; LOOSENED and FOLLOWED 2; LOOSENED twice 2
         allIs("lead a long 9;lead b long 9;cross a b threaded;", 2, 1, 0, 1);
+        // a LOOSE one and a KNOT by STIFF 1: 16 and PULLED 2; LOOSENED 2 and 16: the least l
+        allIs("lead a long 9 stiff 1;lead b long 9 stiff 1;cross a b;cross a b knot;", 18, 0, 0, 1);
         // two pairs apart: every ORDER is as good, the first is by numbers
         allIs("lead a long 9;lead b long 9;lead c long 9;lead d long 9;cross a d knot;cross b c knot;", 30, 0, 0, 1, 2, 3);
         // of c and d only d ahead of c is good, a and b are as they are

@@ -255,6 +255,10 @@ public final class EdgesOfLivingTest {
         livedIs(THREE, "loosen;loosen;loop 99;loosen;loosen;loosen;end;", 300, 0, 0, 0, 0, 0);
         livedIs(THREE, "loosen;loosen;loosen;loosen;loosen;loop 99;loosen;loosen;loosen;end;", 300, 0, 0, 0, 0, 1);
         livedIs(THREE, "loop 99;stop;end;", 2, 0, 0, 0, 0, 0);
+        CableDrawer x = livedIs(THREE, ahead + "cut a;cut a;", 300, 0, 0, 0, 0, 1);
+        Check.years(x, "loosen;");
+        x.live(0);
+        Check.answers("none was left of the next", x, x.lived(4), 0);
     }
 
     private static void live() {

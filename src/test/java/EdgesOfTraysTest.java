@@ -1,3 +1,5 @@
+import java.util.function.Consumer;
+
 /** Promises 1 to 8, sentence by sentence: a new object, what each call tells of itself, TRAYS. */
 public final class EdgesOfTraysTest {
     private static final int MIN = Integer.MIN_VALUE;
@@ -7,6 +9,7 @@ public final class EdgesOfTraysTest {
         newObject();
         emptyDrawer();
         status();
+        zeroElse();
         fraction();
         trayNumbersAndSorts();
         trayLengths();
@@ -87,13 +90,67 @@ public final class EdgesOfTraysTest {
         Check.refused("a call with a STATUS", full, full.order(9), 8);
         Check.due("a feed() that is too much", full.feed(0, 0, 0, 0, 0), -1);
         Check.due("feed() has none", full.status(), 8);
+    }
+
+    private static void tellsZero(String call, Consumer<CableDrawer> asked) {
+        CableDrawer x = Scene.full();
+        Check.refused("a refused one ahead of " + call, x, x.order(99), 8);
+        asked.accept(x);
+        Check.due("status behind " + call, x.status(), 0);
+    }
+
+    private static void zeroElse() {
         Check.sentence(Check.TERMS, "0 else.");
-        int refusals = 0;
-        for (int what = 0; what <= 8; what++) {
-            refusals += x.lead(0, what) == -1 && x.status() == 5 ? 1 : 0;
-        }
-        Check.due("one refused call alone", refusals, 1);
-        Check.answers("behind a refused one", x, x.lead(0, 0), 12);
+        tellsZero("tray", x -> x.tray(3, 0, 1));
+        tellsZero("write", x -> x.write(0, 0, 1));
+        tellsZero("read", x -> x.read(0, 0));
+        tellsZero("pour", x -> x.pour(0, 0, 1, 0, 3));
+        tellsZero("drawer", x -> x.drawer(20));
+        tellsZero("years", x -> x.years(0));
+        tellsZero("many", x -> x.many(0));
+        tellsZero("lead", x -> x.lead(0, 0));
+        tellsZero("crossing", x -> x.crossing(0, 0));
+        tellsZero("along", x -> x.along(0, 0));
+        tellsZero("look", x -> x.look(0));
+        tellsZero("between", x -> x.between(0, 1));
+        tellsZero("copyStates", x -> x.copyStates(0));
+        tellsZero("follow", x -> x.follow(0, 0));
+        tellsZero("loosen", CableDrawer::loosen);
+        tellsZero("pull", x -> x.pull(0));
+        tellsZero("cut", x -> x.cut(0));
+        tellsZero("clip", x -> x.clip(Scene.FREE));
+        tellsZero("unclip", x -> x.unclip(Scene.CLIPPED));
+        tellsZero("cross", x -> x.cross(0, 1, 0));
+        tellsZero("open", x -> x.open(0));
+        tellsZero("lump", x -> x.lump(0));
+        tellsZero("lumps", x -> x.lumps(0));
+        tellsZero("comes", x -> x.comes(0));
+        tellsZero("easy", CableDrawer::easy);
+        tellsZero("free", x -> x.free(0));
+        tellsZero("inState", x -> x.inState(0));
+        tellsZero("worse", x -> x.worse(0, 1));
+        tellsZero("worst", CableDrawer::worst);
+        tellsZero("key", CableDrawer::key);
+        tellsZero("alone", x -> x.alone(0));
+        tellsZero("way", x -> x.way(0));
+        tellsZero("follows", x -> x.follows(0, 0, 0));
+        tellsZero("all", CableDrawer::all);
+        tellsZero("order", x -> x.order(0));
+        tellsZero("loosens", CableDrawer::loosens);
+        tellsZero("soonest", CableDrawer::soonest);
+        tellsZero("fresh", x -> x.fresh(0, 0));
+        tellsZero("grows", CableDrawer::grows);
+        tellsZero("clips", CableDrawer::clips);
+        tellsZero("tries", x -> x.tries(0));
+        tellsZero("nextTry", x -> x.nextTry(0, 0));
+        tellsZero("boxes", x -> x.boxes(30));
+        tellsZero("waste", x -> x.waste(0));
+        tellsZero("live", x -> x.live(0));
+        tellsZero("lived", x -> x.lived(0));
+        tellsZero("mean", x -> x.mean(0, 1));
+        tellsZero("odds", x -> x.odds(0, 0, 1));
+        tellsZero("mark", CableDrawer::mark);
+        tellsZero("back", CableDrawer::back);
     }
 
     private static void fraction() {

@@ -244,6 +244,10 @@ public final class EdgesOfWorthTest {
         x.cut(1);
         Check.answers("the one that is longer was CUT", x, x.boxes(5), 2);
         Check.refused("4 for 5", x, x.boxes(4), 9);
+        for (int n = 0; n < 3; n++) {
+            CableDrawer one = Check.with(longs(n == 0 ? 6 : 5, n == 1 ? 6 : 5, n == 2 ? 6 : 5));
+            Check.refused("5 where LEAD " + n + " is 6", one, one.boxes(5), 9);
+        }
     }
 
     private static void waste() {

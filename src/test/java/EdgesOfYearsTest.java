@@ -198,6 +198,13 @@ public final class EdgesOfYearsTest {
         fails("loop 2;loop 2;end;", 2, 18);
         fails("loop 2;loop 2;loop 2;end;end;\n", 2, 30);
         good("loop 2;loop 2;loop 2;end;end;end;", 3);
+        // a beginning in a text with a FAULT is none for the next one
+        CableDrawer x = Check.with(TWO);
+        Check.refused("without its end", x, Check.years(x, "loop 2;loop 2;"), 10);
+        Check.refused("an end alone", x, Check.years(x, "end;"), 10);
+        Check.due("fault(1)", x.fault(1), 0);
+        Check.refused("without its end", x, Check.years(x, "loop 2;loop 2;"), 10);
+        Check.answers("three deep", x, Check.years(x, "loop 2;loop 2;loop 2;end;end;end;"), 3);
     }
 
     private static void names() {
