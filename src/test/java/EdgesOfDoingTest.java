@@ -362,7 +362,7 @@ public final class EdgesOfDoingTest {
     }
 
     private static void openRisk() {
-        Check.sentence(Check.TERMS, "for each LEAD that is IN without a CLIP, by numbers: a draw by 16 that is less than its RISK");
+        Check.sentence(Check.TERMS, "OPEN: for each LEAD that is IN without a CLIP, by numbers: a draw by 16 that is less than its RISK");
         for (int drawn = 0; drawn < 16; drawn++) {
             int seed = seedWith(drawn);
             for (int risk = 0; risk <= 15; risk++) {

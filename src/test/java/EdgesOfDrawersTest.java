@@ -5,8 +5,6 @@ import java.util.Set;
 public final class EdgesOfDrawersTest {
     private static final String TWO = "lead a long 9;lead b long 9;";
     private static final String CLIPPED = TWO + "lead c long 9 clip;";
-    private static final String WORDS = "lead, long, stiff, ends, costs, used, clip, cross, threaded, tight, knot, look, open, take, "
-        + "loosen, pull, from, cut, when, lump, free, loop, end, stop";
 
     public static void main(String[] args) {
         feed();
@@ -209,9 +207,12 @@ public final class EdgesOfDrawersTest {
     }
 
     private static void names() {
-        Check.sentence(Check.TERMS, "NAME: a WORD of 1 to 8 letters that is none of " + WORDS + ".");
+        Check.sentence(Check.TERMS, "NAME: a WORD of 1 to 8 letters that is none of lead, long, stiff, ends, costs, used, clip, "
+            + "cross, threaded, tight, knot, look, open, take, loosen, pull, from, cut, when, lump, free, loop, end, stop.");
         good("lead a long 9;lead abcdefgh long 9;lead zzzzzzzz long 9;lead z long 9;look abcdefgg a z abcdefgh zzzzzzzz;cross abcdefgh zzzzzzzz;", 4);
-        for (String word : WORDS.split(", ")) {
+        String none = "lead long stiff ends costs used clip cross threaded tight knot look open take loosen pull from cut when lump free "
+            + "loop end stop";
+        for (String word : none.split(" ")) {
             fails("lead " + word + " long 9;", 2, 5);
             fails(TWO + "look " + word + " a;", 2, 33);
             fails(TWO + "look l " + word + ";", 2, 35);
@@ -259,7 +260,7 @@ public final class EdgesOfDrawersTest {
     }
 
     private static void partsInOrder() {
-        Check.sentence(Check.TERMS, "lead NAME long NUMBER [stiff NUMBER] [ends NUMBER NUMBER] [costs NUMBER] [used NUMBER] [clip] ;");
+        Check.sentence(Check.TERMS, "PART: lead NAME long NUMBER [stiff NUMBER] [ends NUMBER NUMBER] [costs NUMBER] [used NUMBER] [clip] ;");
         String[] parts = {" stiff 2", " ends 4 5", " costs 6", " used 7", " clip"};
         for (int set = 0; set < 32; set++) {
             StringBuilder text = new StringBuilder("lead a long 9");
@@ -305,6 +306,7 @@ public final class EdgesOfDrawersTest {
         fails(TWO + "look l a 2;", 2, 37);
         fails(TWO + "look l a <", 2, 37);
         Check.sentence(Check.TERMS, "DRAWER: {PART}.");
+        Check.sentence(Check.TERMS, "({ } any number of times, [ ] perhaps.)");
         good("", 0);
         for (String word : "long stiff ends costs used clip threaded tight knot open take loosen pull from cut when lump free loop end stop a".split(" ")) {
             fails(word + " a long 9;", 2, 0);
@@ -349,13 +351,14 @@ public final class EdgesOfDrawersTest {
     private static void numbersOfLeads() {
         Check.sentence(Check.TERMS, "4 a NUMBER that can't be.");
         Check.sentence(Check.TERMS, "LONG (1 to 30), STIFF (0 to 9; 0 without), two ENDS, each so large (1 to 9; 3 without), "
-            + "COSTS of a new one (0 to 999; 0 without), USED in so many sixteenths of all openings (0 to 16; 0 without)");
+            + "COSTS of a new one (0 to 999; 0 without), USED in so many sixteenths of all openings (0 to 16; 0 without), with a CLIP or not.");
         number("long #", 1, 30, 0);
         number("long 9 stiff #", 0, 9, 1);
         number("long 9 ends # 9", 1, 9, 2);
         number("long 9 ends 1 #", 1, 9, 3);
         number("long 9 costs #", 0, 999, 4);
         number("long 9 used #", 0, 16, 5);
+        Check.due("with a CLIP, or not", Check.with("lead a long 9;lead b long 9 clip;").many(4), 2);
     }
 
     private static void crossings() {
@@ -375,6 +378,7 @@ public final class EdgesOfDrawersTest {
         fails(text + "cross a b;", 6, text.length());
         fails(text + " cross", 6, text.length() + 1);
         Check.sentence(Check.TERMS, "STATE: threaded, or tight, or knot.");
+        Check.sentence(Check.TERMS, "STATE: 0 LOOSE, 1 THREADED, 2 TIGHT, 3 KNOT.");
         CableDrawer y = Check.with(TWO + "cross a b knot;cross a b;cross b a tight;cross a b threaded;");
         Check.row(y, 0, 1, 3, 0, 1, 0, 1, 0, 2, 0, 1, 1);
         Check.sentence(Check.TERMS, "CROSSINGS stand in a row as they came.");
@@ -555,7 +559,7 @@ public final class EdgesOfDrawersTest {
         Scene.refuses("21 of 20", Scene::full, x -> x.drawer(21), 5);
         Scene.refuses("901 of 900", Scene::fed, x -> x.drawer(901), 5);
         Scene.refuses("1 of none", Scene::blank, x -> x.drawer(1), 5);
-        Check.sentence(Check.TERMS, "gives NONE, or false, and changes nothing but STATUS (but drawer(), years() with 10 the tape, and what fault() tells)");
+        Check.sentence(Check.TERMS, "A call with another STATUS than 0 gives NONE, or false, and changes nothing but STATUS (but drawer(), years() with 10 the tape, and what fault() tells)");
         // 13 bytes of "lead z long 3;"
         Scene.faulty("drawer(13)", x -> x.drawer(13), 2, 13);
     }

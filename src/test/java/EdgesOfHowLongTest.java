@@ -75,7 +75,7 @@ public final class EdgesOfHowLongTest {
     }
 
     private static void aloneLoosened() {
-        Check.sentence(Check.TERMS, "to get a LEAD free by LOOSENING l times (0 to 3) first");
+        Check.sentence(Check.TERMS, "ALONE: to get a LEAD free by LOOSENING l times (0 to 3) first");
         // one THREADED one by STIFF 4: 1 and then PULLED 2; or 1 and 1, and none is left
         aloneIs(FOUR + "cross a b threaded;", 0, 2, 2, 0, 0, 0);
         // one TIGHT one: three times 1; by STIFF 0 it is 1, 1 and FOLLOWED 1: the least l

@@ -166,7 +166,7 @@ public final class EdgesOfTraysTest {
         Check.refused("a refused call tells none", x, x.fresh(2, 9), 2);
         Check.due("its bottom", x.bottom(), 4);
         Check.fraction("above 0 with a top below 0", x, x.fresh(0, 14), -1, 2);
-        Check.sentence(Check.TERMS, "without a common divisor, the bottom above 0; 0 is 0 by 1");
+        Check.sentence(Check.TERMS, "FRACTIONS are told by top() and bottom() without a common divisor, the bottom above 0; 0 is 0 by 1");
         Check.fraction("15 times 16 by 60 less 4", x, x.fresh(0, 16), 0, 1);
         Check.fraction("15 times 0 by 60", x, x.fresh(1, 0), 0, 1);
         Check.fraction("15 times 20 by 60", x, x.fresh(1, 20), 5, 1);

@@ -22,7 +22,7 @@ public final class EdgesOfWorthTest {
 
     private static void fresh() {
         Check.sentence(44, "The FRACTION is NEW: p (0 to 999) PENCE a minute");
-        Check.sentence(Check.TERMS, "SECONDS ALONE times p PENCE a minute by 60, less COSTS.");
+        Check.sentence(Check.TERMS, "NEW: whether it is cheaper to buy a new one: SECONDS ALONE times p PENCE a minute by 60, less COSTS.");
         CableDrawer x = Check.with("lead a long 9 costs 999;lead b long 9 stiff 9;cross a b knot;cross a b knot;");
         // 24 and 24
         Check.fraction("0 PENCE", x, x.fresh(0, 0), -999, 1);
@@ -56,7 +56,7 @@ public final class EdgesOfWorthTest {
 
     private static void grows() {
         Check.sentence(45, "The FRACTION is GROWS.");
-        Check.sentence(Check.TERMS, "(without minding how many there are): all RISKS by 16, of those LEADS that can be crossed with another one.");
+        Check.sentence(Check.TERMS, "GROWS: the mean of how many CROSSINGS come at one OPENING (without minding how many there are): all RISKS by 16, of those LEADS that can be crossed with another one.");
         CableDrawer x = Check.with("lead a long 30;lead b long 30;lead c long 30 clip;lead d long 1;");
         Check.fraction("15, 15 and 0", x, x.grows(), 15, 8);
         x.unclip(2);
@@ -112,7 +112,7 @@ public final class EdgesOfWorthTest {
 
     private static void tries() {
         Check.sentence(47, "The FRACTION is TRIES for a LOOK");
-        Check.sentence(Check.TERMS, "its LEADS that are IN, by USED, falling, of several the first: the mean of how many must be tried "
+        Check.sentence(Check.TERMS, "TRIES for a LOOK: its LEADS that are IN, by USED, falling, of several the first: the mean of how many must be tried "
             + "till the one that is wanted is found (each is wanted as often as it is USED; all 0: it can't be).");
         CableDrawer x = Check.with("lead a long 9 used 1;lead b long 9 used 16;lead c long 9;lead d long 9 used 16;lead e long 9 used 3;"
             + "look l e d c b a;look m c a;look n b;");
@@ -252,7 +252,7 @@ public final class EdgesOfWorthTest {
 
     private static void waste() {
         Check.sentence(50, "THROWN, p 0 to 999: a set (5).");
-        Check.sentence(Check.TERMS, "the set of LEADS that are IN with COSTS times USED by 16 less than p PENCE times the CROSSINGS it has.");
+        Check.sentence(Check.TERMS, "THROWN: the set of LEADS that are IN with COSTS times USED by 16 less than p PENCE times the CROSSINGS it has.");
         // a is worth 15 and a sixteenth less, b 15, c 15 and a sixteenth more; each has one CROSSING with d, which is worth 999
         CableDrawer x = Check.with("lead a long 9 costs 239 used 1;lead b long 9 costs 15 used 16;lead c long 9 costs 241 used 1;"
             + "lead d long 9 costs 999 used 16;lead e long 9;cross a d;cross b d;cross d c;");

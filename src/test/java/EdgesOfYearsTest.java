@@ -323,7 +323,7 @@ public final class EdgesOfYearsTest {
         Scene.refuses("301 of 900", Scene::fed, x -> x.years(301), 5);
         Scene.refuses("900 of 900", Scene::fed, x -> x.years(900), 5);
         Scene.refuses("1 of none", Scene::blank, x -> x.years(1), 5);
-        Check.sentence(Check.TERMS, "gives NONE, or false, and changes nothing but STATUS (but drawer(), years() with 10 the tape, and what fault() tells)");
+        Check.sentence(Check.TERMS, "A call with another STATUS than 0 gives NONE, or false, and changes nothing but STATUS (but drawer(), years() with 10 the tape, and what fault() tells)");
         // the text of a DRAWER is a FAULT here
         Scene.faulty("years(20)", x -> x.years(20), 2, 0);
     }
